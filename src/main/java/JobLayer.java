@@ -336,6 +336,11 @@ public final class JobLayer {
         return p >= 0 && p < TASKS && tasks[p].state != FREE;
     }
 
+    /** Null for process 0 alone. */
+    private Task parentOf(Task task) {
+        return task.parent >= 0 && task.parent < TASKS ? tasks[task.parent] : null;
+    }
+
     private boolean isGroupAlive(int g) {
         for (int i = 0; i < TASKS; i++) {
             if (tasks[i].isAlive() && tasks[i].group == g) {
@@ -348,11 +353,9 @@ public final class JobLayer {
     private boolean isOrphaned(int g) {
         for (int i = 0; i < TASKS; i++) {
             Task task = tasks[i];
-            if (task.isAlive() && task.group == g && task.parent >= 0) {
-                Task parent = tasks[task.parent];
-                if (parent.isAlive() && parent.group != g) {
-                    return false;
-                }
+            Task parent = parentOf(task);
+            if (task.isAlive() && task.group == g && parent != null && parent.isAlive() && parent.group != g) {
+                return false;
             }
         }
         return true;
@@ -437,7 +440,7 @@ public final class JobLayer {
             } else if (task.number != 0 && s <= INPUT && !isOrphaned(task.group)) {
                 task.state = STOPPED;
                 task.stopTold = false;
-                return tasks[task.parent];
+                return parentOf(task);
             }
         }
         return null;
@@ -445,7 +448,8 @@ public final class JobLayer {
 
     /** The parent to which CHILD comes; null for process 0, which never ends. */
     private Task endTask(Task task, int status) {
-        if (task.number == 0) {
+        Task parent = parentOf(task);
+        if (parent == null) {
             return null;
         }
         task.leave(status);
@@ -454,7 +458,6 @@ public final class JobLayer {
                 tasks[i].parent = 0;
             }
         }
-        Task parent = tasks[task.parent];
         task.state = parent.actions[CHILD] == IGNORE ? FREE : ZOMBIE;
         return parent;
     }

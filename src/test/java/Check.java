@@ -11,9 +11,14 @@ final class Check {
     }
 
     static void due(String call, long got, long want) {
+        due(call, String.valueOf(got), String.valueOf(want));
+    }
+
+    static void due(String call, String got, String want) {
         asked++;
-        if (got != want) {
-            report(call, String.valueOf(got), String.valueOf(want));
+        if (!got.equals(want)) {
+            wrong++;
+            System.out.println(call + " answered " + got + ", due is " + want);
         }
     }
 
@@ -26,22 +31,13 @@ final class Check {
     }
 
     private static void thrown(String call, Call made, Class<? extends RuntimeException> want) {
-        asked++;
         String got;
         try {
             got = String.valueOf(made.run());
         } catch (RuntimeException e) {
-            if (e.getClass() == want) {
-                return;
-            }
             got = e.getClass().getSimpleName();
         }
-        report(call, got, want.getSimpleName());
-    }
-
-    static void report(String call, String got, String want) {
-        wrong++;
-        System.out.println(call + " answered " + got + ", due is " + want);
+        due(call, got, want.getSimpleName());
     }
 
     static void finish() {

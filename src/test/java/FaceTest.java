@@ -60,9 +60,7 @@ public final class FaceTest {
                 openNames.add(m.getName());
             }
         }
-        if (!open.equals(new TreeSet<>(FACE))) {
-            Check.report("the face", open.toString(), new TreeSet<>(FACE).toString());
-        }
+        Check.due("the face", open.toString(), new TreeSet<>(FACE).toString());
         for (Class<?> inside : face.getDeclaredClasses()) {
             for (Method m : inside.getDeclaredMethods()) {
                 hold(m + " bears no public name", !openNames.contains(m.getName()));

@@ -20,6 +20,7 @@ public final class PromisesTest {
         promise6Copy();
         promise7Close();
         promise8ReadPipe();
+        promise8And9PipesApart();
         promise8ReadTerminal();
         promise8ReadInBackground();
         promise9WritePipe();
@@ -139,6 +140,13 @@ public final class PromisesTest {
         due("2: reading makes room", x.read(0, 0, 2), 2);
         type(x, "uvw");
         due("2: two more, one lost", x.terminal(-2), 24);
+        x.key(4);
+        int[] lengths = {8, 1, 8, 5, 0, 2};
+        for (int i = 0; i < lengths.length; i++) {
+            due("2: what is left, read " + i, x.read(0, 0, 8), lengths[i]);
+        }
+        due("2: the last is v", x.taken(0, 1), 'v');
+        due("2: all lines are gone", x.terminal(-2) + x.terminal(-3), 0);
 
         JobLayer y = new JobLayer();
         for (int i = 0; i < 8; i++) {
@@ -173,6 +181,8 @@ public final class PromisesTest {
             due("2: heard in the foreground", x.heard(1, 0), s);
             due("2: not heard by 0", x.process(0, 7), 0);
             due("2: not heard by 3", x.process(3, 7), 0);
+            x.key(8);
+            due("2: no line to take back from", x.terminal(-2), 0);
             due("2: 2 ended or stopped", x.process(2, 0), c == 3 ? ZOMBIE : STOPPED);
             due("2: status of 2", x.process(2, 8), c == 3 ? 65 : -1);
             type(x, "d");
@@ -191,6 +201,7 @@ public final class PromisesTest {
         x.pipe(0);
         x.action(0, 3, 2);
         x.action(0, 1, 1);
+        x.action(0, 7, 2);
         x.mask(0, 1 << 6 | 1 << 3);
         x.signal(0, 0, 3);
         x.action(0, 2, 2);
@@ -206,6 +217,7 @@ public final class PromisesTest {
         due("3: action 2 as p's", x.process(1, 22), 2);
         due("3: action 3 as p's", x.process(1, 23), 2);
         due("3: action 4 as p's", x.process(1, 24), 0);
+        due("3: action 7 as p's", x.process(1, 27), 2);
         due("3: nothing taken", x.taken(1, 0), -1);
         due("3: nothing heard", x.heard(1, 0), -1);
         due("3: p keeps what is pending", x.process(0, 4), 8);
@@ -255,6 +267,15 @@ public final class PromisesTest {
         due("3: none heard again", y.heard(1, 0), -1);
         due("3: action of the new parent", y.process(1, 23), 0);
         due("3: no status", y.process(1, 8), -1);
+        y.group(0, 1, 1);
+        y.pause(1);
+        y.signal(0, 1, 8);
+        y.reap(0, false);
+        y.fork(0);
+        y.group(0, 1, 1);
+        y.signal(0, 1, 4);
+        y.signal(0, 1, 6);
+        due("3: the call of the one before is none of its own", y.process(1, 0), READY);
     }
 
     private static void promise4End() {
@@ -350,6 +371,9 @@ public final class PromisesTest {
         due("6: it is what it was", x.process(0, 12), 2);
         due("6: to a file that is open", x.copy(0, 0, 2), 2);
         due("6: the reading end was closed by that", x.write(0, 5, 1, 1), -6);
+        due("6: to file 0", x.copy(0, 5, 0), 0);
+        due("6: it is a writing end", x.process(0, 10), 3);
+        due("6: back", x.copy(0, 1, 0), 0);
         due("6: last end", x.copy(0, 0, 5), 5);
         due("6: the pipe is gone", x.terminal(-5), 0);
         due("6: from none", x.copy(0, 4, 0), -1);
@@ -362,6 +386,14 @@ public final class PromisesTest {
         Check.illegalState("6: no process", () -> x.copy(8, 0, 1));
         x.pause(0);
         Check.illegalState("6: blocked", () -> x.copy(0, 9, 9));
+
+        JobLayer y = new JobLayer();
+        y.pipe(0);
+        y.fork(0);
+        y.close(1, 3);
+        y.read(1, 2, 1);
+        y.copy(0, 1, 3);
+        due("6: the last writing end was closed by that", y.process(1, 5), 0);
     }
 
     private static void promise7Close() {
@@ -424,6 +456,41 @@ public final class PromisesTest {
         due("8: the last writing end goes", y.process(1, 5), 0);
         due("8: ready", y.process(1, 0), READY);
         due("8: none taken", y.process(1, 6), 0);
+    }
+
+    private static void promise8And9PipesApart() {
+        JobLayer x = new JobLayer();
+        x.close(0, 0);
+        x.close(0, 1);
+        due("5: pipe", x.pipe(0), 8);
+        due("5: pipe", x.pipe(0), 2 + 8 * 3);
+        due("5: pipe", x.pipe(0), 4 + 8 * 5);
+        for (int i = 0; i < 3; i++) {
+            due("9: into pipe " + i, x.write(0, 2 * i + 1, 100 + i, 1), 1);
+        }
+        for (int i = 2; i >= 0; i--) {
+            due("8: out of pipe " + i, x.read(0, 2 * i, 8), 1);
+            due("8: its byte", x.taken(0, 0), 100 + i);
+        }
+        x.fork(0);
+        for (int i = 0; i < 3; i++) {
+            x.close(1, 2 * i + 1);
+            due("8: out of an empty pipe", x.read(1, 2 * i, 8), -9);
+            x.close(0, 2 * i + 1);
+            due("8: no file is its writing end", x.process(1, 5), 0);
+            due("8: ready", x.process(1, 0), READY);
+        }
+        JobLayer y = new JobLayer();
+        y.close(0, 0);
+        y.close(0, 1);
+        y.pipe(0);
+        y.pipe(0);
+        y.pipe(0);
+        for (int i = 2; i >= 0; i--) {
+            y.close(0, 2 * i);
+            due("9: no file is its reading end", y.write(0, 2 * i + 1, 1, 1), -6);
+            due("9: of another one is", i == 0 ? 1 : y.write(0, 1, 1, 1), 1);
+        }
     }
 
     private static void promise8ReadTerminal() {
@@ -690,6 +757,9 @@ public final class PromisesTest {
         due("12: to group 0", x.signal(3, -1, 1), 0);
         due("12: heard by 1", x.process(1, 7), 8);
         due("12: not by 3", x.process(3, 7), 1);
+        x.action(0, 3, 2);
+        due("12: to group 0", x.signal(0, -1, 3), 0);
+        due("12: heard by process 0", x.heard(0, 0), 3);
         due("12: to a free one", x.signal(0, 7, 1), -8);
         due("12: to a group that is none", x.signal(0, -3, 1), -8);
         due("12: to the last group", x.signal(0, -8, 1), -8);
@@ -779,6 +849,26 @@ public final class PromisesTest {
         due("14: KILL is never masked", x.process(3, 8), 72);
         Check.illegalState("14: a zombie", () -> x.mask(3, 0));
         Check.illegalState("14: no process", () -> x.mask(-1, 0));
+
+        JobLayer y = new JobLayer();
+        y.action(0, 7, 2);
+        y.pipe(0);
+        y.fork(0);
+        y.fork(0);
+        y.group(0, 1, 1);
+        y.close(0, 3);
+        y.close(2, 3);
+        y.read(2, 2, 1);
+        y.mask(1, 1 << 4);
+        y.signal(0, 1, 4);
+        due("14: it stops by that", y.mask(1, 0) + 100 * y.process(1, 0), 16 + 300);
+        due("14: CHILD comes to its parent", y.heard(0, 0), 7);
+        y.signal(0, 1, 6);
+        y.mask(1, 1 << 3);
+        y.signal(0, 1, 3);
+        due("14: it ends by that", y.mask(1, 0) + 100 * y.process(1, 0), 8 + 400);
+        due("14: CHILD comes again", y.process(0, 7), 2);
+        due("14: its files are closed for a reader", y.process(2, 5), 0);
     }
 
     private static void promise15Group() {

@@ -129,6 +129,19 @@ public final class SettlingTest {
         due("the writer ends by PIPE", y.process(2, 8), 66);
         due("the pipe is gone", y.terminal(-5), 0);
         due("the next reap", y.reap(0, false), 2 + 8 * 66);
+
+        JobLayer z = new JobLayer();
+        z.pipe(0);
+        z.fork(0);
+        z.fork(0);
+        z.close(0, 2);
+        z.close(2, 2);
+        z.reap(0, false);
+        z.write(1, 3, 0, 8);
+        z.write(2, 3, 0, 8);
+        due("a reap and a write wait", z.process(0, 0) + z.process(2, 0), 2 * BLOCKED);
+        z.close(1, 2);
+        due("the write's end lets the earlier reap be done", z.process(0, 5), 2 + 8 * 66);
     }
 
     private static void foregroundChangesWakeReaders() {

@@ -161,6 +161,10 @@ public final class SignalsTest {
                 due("heard", x.process(1, 7), caught && mask == 0 ? 1 : 0);
                 due("pending", x.process(1, 4), caught ? mask : 0);
                 due("outcome of no call", x.process(1, 5), 0);
+                x.write(1, 1, 0, 1);
+                x.signal(0, 1, STOP);
+                x.signal(0, 1, CONT);
+                due("ready after a call done at once", x.process(1, 0), READY);
                 x.mask(1, 0);
                 x.pause(1);
                 x.signal(0, 1, STOP);
