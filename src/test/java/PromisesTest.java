@@ -1032,7 +1032,7 @@ public final class PromisesTest {
     private static void promise20Terminal() {
         JobLayer x = new JobLayer();
         for (int i = 0; i < 13; i++) {
-            for (int k = 0; k < 64; k++) {
+            for (int k = i % 4; k < 64; k += 4) {
                 due("20: byte " + k, x.terminal(k), k < 5 * i ? 5 * i - 1 - k : -1);
             }
             long bytes = 0;
