@@ -77,10 +77,11 @@ public final class RandomRunsTest {
         return NAMES[which];
     }
 
-    /** Mostly least .. most, now and then just outside. */
+    /** Mostly least .. most, now and then just or far outside. */
     private int among(int least, int most) {
         if (random.nextInt(60) == 0) {
-            return random.nextBoolean() ? least - 1 : most + 1;
+            int[] outside = {least - 1, most + 1, Integer.MIN_VALUE, Integer.MAX_VALUE};
+            return outside[random.nextInt(outside.length)];
         }
         return least + random.nextInt(most - least + 1);
     }
