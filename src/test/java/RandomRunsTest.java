@@ -2,6 +2,7 @@ import java.util.ArrayList;
 import java.util.Arrays;
 import java.util.List;
 import java.util.Random;
+import java.util.Set;
 
 /**
  * Runs of calls from fixed seeds: the program against PlainModel, answer by answer. An object gets no more than
@@ -18,6 +19,7 @@ public final class RandomRunsTest {
     /** How often each of NAMES is called in a long run; in a short one no question is asked before its end. */
     private static final int[] WEIGHTS = {30, 9, 2, 8, 6, 5, 16, 16, 6, 3, 16, 10, 6, 10, 6, 100, 15, 10, 20};
     private static final int QUESTIONS = 4;
+    private static final Set<String> WAITS = Set.of("read", "write", "reap", "pause");
     private static final int[] KEYS = {3, 26, 8, 21, 10, 10, 10, 4, 4, 4, 97, 126, 32, 127, 31, 65, 0, -1, 300};
 
     private final JobLayer program = new JobLayer();
@@ -86,10 +88,10 @@ public final class RandomRunsTest {
         return least + random.nextInt(most - least + 1);
     }
 
-    private int anyReady() {
+    private int anyReady(int least) {
         int p = 0;
         for (int tries = 0; tries < 12; tries++) {
-            p = among(0, 7);
+            p = among(least, 7);
             if (model.process(p, 0) == 1) {
                 break;
             }
@@ -97,10 +99,35 @@ public final class RandomRunsTest {
         return p;
     }
 
+    /** Process 0 seldom waits, since a run in which nobody is READY any more goes nowhere. */
+    private int anyCaller(String name) {
+        return anyReady(WAITS.contains(name) && random.nextInt(40) != 0 ? 1 : 0);
+    }
+
+    /** Often a process that is there: most of what is named blindly is not. */
+    private int anyTarget() {
+        int to = among(-8, 7);
+        for (int tries = random.nextInt(5); tries > 0 && model.process(to, 0) < 0; tries--) {
+            to = among(-8, 7);
+        }
+        return to;
+    }
+
+    private int anyKey() {
+        int c = KEYS[random.nextInt(KEYS.length)];
+        return c == 3 && gentle && random.nextInt(10) != 0 ? 26 : c;
+    }
+
+    /** Half of them for a group of its own. */
+    private Object[] anyGrouping(int p) {
+        int q = among(0, 7);
+        return new Object[] {p, q, random.nextBoolean() ? q : among(0, 7)};
+    }
+
     private Object[] anyArguments(String name) {
-        int p = anyReady();
+        int p = anyCaller(name);
         switch (name) {
-            case "key": return new Object[] {KEYS[random.nextInt(KEYS.length)]};
+            case "key": return new Object[] {anyKey()};
             case "fork", "pipe", "pause": return new Object[] {p};
             case "end": return new Object[] {p, random.nextInt(200) - 50};
             case "copy": return new Object[] {p, among(0, 5), among(0, 5)};
@@ -108,10 +135,10 @@ public final class RandomRunsTest {
             case "read": return new Object[] {p, among(0, 5), among(1, 8)};
             case "write": return new Object[] {p, among(0, 5), random.nextLong(), among(1, 8)};
             case "reap": return new Object[] {p, random.nextBoolean()};
-            case "signal": return new Object[] {p, among(-8, 7), gentle ? among(4, 7) : among(1, 8)};
-            case "action": return new Object[] {p, among(1, 7), among(0, 2)};
+            case "signal": return new Object[] {p, anyTarget(), gentle ? among(4, 7) : among(1, 8)};
+            case "action": return new Object[] {p, among(1, 7), random.nextBoolean() ? 2 : among(0, 2)};
             case "mask": return new Object[] {p, random.nextInt() & random.nextInt() & random.nextInt()};
-            case "group": return new Object[] {p, among(0, 7), among(0, 7)};
+            case "group": return anyGrouping(p);
             case "foreground": return new Object[] {p, among(0, 7)};
             case "process": return new Object[] {among(0, 7), random.nextBoolean() ? among(0, 8) : among(10, 27)};
             case "taken": return new Object[] {among(0, 7), among(0, 7)};

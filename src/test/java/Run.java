@@ -52,7 +52,7 @@ record Run(String title, List<Step> steps) {
         }
     }
 
-    private static Step step(String name, String list, String due) {
+    static Step step(String name, String list, String due) {
         Method method = Calls.method(JobLayer.class, name);
         String[] texts = list.split(", ");
         Object[] arguments = new Object[texts.length];
